@@ -913,31 +913,36 @@ public final class FirstReader {
             writeSteps();
         }
 
+        /** A state is looked up first of all: most ways lead to states that were met before. */
         private void goOnFrom(int index) {
             int state = states[index];
             int metWords = metIn(state);
             int knownWords = metWords | told.readBy(lessonsIn(state));
             for (int l = 0; l < told.lessonCount && lastState == NONE; l++) {
-                if ((state >> l & 1) == 0 && told.mayFollow(l, state)) {
-                    int lessons = lessonsIn(state) | 1 << l;
-                    arrive(state | 1 << l, index, metWords | told.readBy(lessons));
+                int next = state | 1 << l;
+                if (isNew(next) && told.mayFollow(l, state)) {
+                    arrive(next, index, metWords | told.readBy(lessonsIn(next)));
                 }
             }
             for (int p = 0; p < told.pageCount && lastState == NONE; p++) {
-                // a page already read, and one whose words were all met, is no step of a shortest course
-                boolean isNews = (told.pageSet[p] & ~metWords) != 0;
-                if (p != page && isNews && told.unknownOn(p, knownWords) <= mostUnknown) {
-                    arrive(state | 1 << MOST_LESSONS + p, index, knownWords | told.pageSet[p]);
+                int next = state | 1 << MOST_LESSONS + p;
+                // a page with no word that was not met before is no step of a shortest course
+                boolean isOfUse = p != page && (told.pageSet[p] & ~metWords) != 0;
+                if (isOfUse && isNew(next) && told.unknownOn(p, knownWords) <= mostUnknown) {
+                    arrive(next, index, knownWords | told.pageSet[p]);
                 }
             }
         }
 
+        private boolean isNew(int state) {
+            return (seen[state >> 6] >>> (state & 63) & 1) == 0;
+        }
+
         private void arrive(int state, int from, int knownWords) {
-            long mark = 1L << (state & 63);
-            if ((seen[state >> 6] & mark) != 0 || stateCount >= MOST_STATES) {
+            if (stateCount >= MOST_STATES) {
                 return;
             }
-            seen[state >> 6] |= mark;
+            seen[state >> 6] |= 1L << (state & 63);
             states[stateCount] = state;
             cameFrom[stateCount] = from;
             if (told.unknownOn(page, knownWords) <= mostUnknown) {

@@ -907,7 +907,7 @@ public final class FirstReader {
             lastState = NONE;
             Arrays.fill(seen, 0L);
             arrive(0, NONE, told.readBy(0));
-            for (int i = 0; i < stateCount && lastState == NONE; i++) {
+            for (int i = 0; i < MOST_STATES && i < stateCount && lastState == NONE; i++) {
                 goOnFrom(i);
             }
             writeSteps();
@@ -1096,6 +1096,8 @@ public final class FirstReader {
         private final byte[] text = new byte[MOST_BYTES];
         int length;
         private int at;
+        /** The first figure of the number read last. */
+        private int numberAt;
         private Primer draft;
         int clauses;
         int fault;
@@ -1136,7 +1138,6 @@ public final class FirstReader {
             } else {
                 fail(CANNOT_STAND, start);
             }
-            skipBlanks();
             if (!accepts(';')) {
                 fail(CANNOT_STAND, at);
             }
@@ -1180,13 +1181,11 @@ public final class FirstReader {
         }
 
         private void parseSound(Word word) {
-            skipBlanks();
-            int first = at;
             int sound = parseNumber(SOUNDS_IN_ALL);
             if (word.soundCount < MOST_SOUNDS) {
                 word.sounds[word.soundCount++] = sound;
             } else {
-                fail(TOO_MANY, first);
+                fail(TOO_MANY, numberAt);
             }
             skipBlanks();
         }
@@ -1243,11 +1242,9 @@ public final class FirstReader {
             boolean goesOn = true;
             // one more than all unlike numbers: the last one is a fault at the latest
             for (int i = 0; i <= bound && goesOn; i++) {
-                skipBlanks();
-                int first = at;
                 int number = parseNumber(bound);
                 if ((set >> number & 1) != 0) {
-                    fail(NUMBER_AGAIN, first);
+                    fail(NUMBER_AGAIN, numberAt);
                 }
                 set |= 1 << number;
                 goesOn = fault == 0 && accepts(',');
@@ -1258,16 +1255,16 @@ public final class FirstReader {
         /** A number below a bound; 0 where there is a fault. */
         private int parseNumber(int bound) {
             skipBlanks();
-            int first = at;
+            numberAt = at;
             int number = 0;
             while (at < length && isFigure(text[at])) {
                 number = Math.min(1000, number * 10 + text[at] - '0');
                 at++;
             }
-            if (at == first) {
-                fail(CANNOT_STAND, first);
-            } else if (at - first > 2 || number >= bound) {
-                fail(BAD_NUMBER, first);
+            if (at == numberAt) {
+                fail(CANNOT_STAND, numberAt);
+            } else if (at - numberAt > 2 || number >= bound) {
+                fail(BAD_NUMBER, numberAt);
             }
             return fault == 0 ? number : 0;
         }

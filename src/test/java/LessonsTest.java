@@ -11,6 +11,7 @@ public final class LessonsTest {
         mixedForgetsNoSight();
         unknownCountsUnlikeWords();
         fewestIsTheLeastOfTheFewest();
+        fewestMayBeAll();
         fewestMayShunALesson();
         courseByLessonsAlone();
         courseThroughPages();
@@ -52,6 +53,9 @@ public final class LessonsTest {
         due.is("aba comes out as 1 2 1", x.mixed(3, 1), 0);
         due.is("c does not come out", x.mixed(1, 7), 0);
         due.is("none", x.mixed(0, 4), 0);
+        FirstReader y = due.reader("sign a 1;word b 1;word a 2;lesson signs 0;", 4);
+        due.is("a is taken for word 0", y.mixed(1, 1), 1);
+        due.is("b is not for a", y.mixed(0, 1), 0);
     }
 
     private static void mixedForgetsNoSight() {
@@ -81,6 +85,13 @@ public final class LessonsTest {
         due.is("fewest(0, 17)", x.fewest(0, 17), OUTSIDE);
         due.is("fewest(3, 17)", x.fewest(3, 17), UNKNOWN);
         due.is("fewest(-1, 0)", x.fewest(-1, 0), UNKNOWN);
+    }
+
+    private static void fewestMayBeAll() {
+        FirstReader x = due.reader("word a 1;word b 1;word c 1;word d 1;word e 1;word f 1;word g 1;page a b c d e f g;"
+            + "lesson sight 0;lesson sight 1;lesson sight 2;lesson sight 3;lesson sight 4;lesson sight 5;lesson sight 6;", 15);
+        due.row("fewest 0", 0, u -> x.fewest(0, u), 127, 63, 31, 15, 7, 3, 1, 0);
+        due.is("course(0, 0)", x.course(0, 0, -1), 8);
     }
 
     private static void fewestMayShunALesson() {

@@ -11,6 +11,8 @@ public final class PrimerTest {
         primerTakesTheTextAndEmptiesIt();
         aFaultLeavesAllAsItWas();
         primerBeginsAnew();
+        nothingIsLeftOfEarlierPrimers();
+        nothingIsLeftOfEarlierTexts();
         whatMayStandWhere();
         faultsOfKind1();
         faultsOfKind2();
@@ -144,6 +146,42 @@ public final class PrimerTest {
         due.is("reads is another", x.reads(0), 0);
     }
 
+    /** Three texts: rows that are used again hold something else by the third. */
+    private static void nothingIsLeftOfEarlierPrimers() {
+        FirstReader x = due.reader("sign a 1 start;sign b 2 end;word ab 1 2;word b 2;lesson signs 0,1 sight 0;lesson after 0;page ab ab b;", 7);
+        due.is("reads(3)", x.reads(3), 3);
+        due.is("hangs(1)", x.hangs(1), 1);
+        for (int i = 0; i < 2; i++) {
+            Due.feed(x, "sign b 1;sign bb -;word b 1;word ba 1 2 3;lesson;lesson sight 1;page b;");
+            due.is("primer()", x.primer(), 7);
+            due.row("sign 0", 0, what -> x.sign(0, what), 1, 1, 0, 1, NONE, NONE, NONE);
+            due.row("sign 1", 0, what -> x.sign(1, what), 2, NONE, 0, 1, 1, NONE, NONE);
+            due.row("word 0", 0, what -> x.word(0, what), 1, 1, 1, NONE);
+            due.row("sounds of word 1", 10, what -> x.word(1, what), 1, 2, 3, NONE);
+            due.row("lesson 0", 0, what -> x.lesson(0, what), 0, 0, 0);
+            due.row("lesson 1", 0, what -> x.lesson(1, what), 0, 0, 2);
+            due.row("page 0", -1, what -> x.page(0, what), 1, 0, NONE, NONE);
+            due.is("fits(0, 1, 1)", x.fits(0, 1, 1), 0);
+            due.row("reads", 0, x::reads, 0, 0, 2, 2);
+            due.is("hangs(0)", x.hangs(0), NONE);
+            due.is("hangs(1)", x.hangs(1), 2);
+            due.is("fewest(0, 0)", x.fewest(0, 0), NONE);
+        }
+    }
+
+    private static void nothingIsLeftOfEarlierTexts() {
+        String[][] texts = {{"sign a 1;", "sign a 1"}, {"sign a 12;", "sign a 1"}, {"sign a 1 ;", "sign a 1"},
+            {"sign ab 1;", "sign a"}, {"sign a 1 end;", "sign a 1 "}, {"sign a 1,2;", "sign a 1"}};
+        for (String[] pair : texts) {
+            FirstReader x = new FirstReader();
+            Due.feed(x, pair[0]);
+            x.primer();
+            Due.feed(x, pair[1]);
+            due.is("primer() of " + pair[1] + " behind " + pair[0], x.primer(), -11);
+            due.is("fault() of " + pair[1] + " behind " + pair[0], x.fault(), pair[1].length());
+        }
+    }
+
     private static void whatMayStandWhere() {
         due.reader("sign a1;sign b-;sign c2end;sign d-start;word abc1 2 3;lesson signs0,1sight0;page abc;", 7);
         due.reader("  sign  ab  07  start  ;  lesson  signs  0  ;  lesson after 0 ;lesson   ;", 4);
@@ -161,6 +199,12 @@ public final class PrimerTest {
         due.fault(" sentence a 1;", 1, 1);
         due.fault("signs a 1;", 1, 0);
         due.fault("sig", 1, 0);
+        due.fault("fign a 1;", 1, 0);
+        due.fault("sigh a 1;", 1, 0);
+        due.fault("lord a 1;", 1, 0);
+        due.fault("word a 1;sage a;", 1, 9);
+        due.fault("sign a 1;word a 1;lesson eight 0;", 1, 25);
+        due.fault("sign a 1 and;", 1, 9);
         due.fault("Sign a 1;", 1, 0);
         due.fault("siGn a 1;", 1, 0);
         due.fault("signA 1;", 1, 4);

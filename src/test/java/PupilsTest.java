@@ -43,6 +43,8 @@ public final class PupilsTest {
         due.is("count(5)", x.count(5), 1);
         x.take(0, 0);
         due.is("span", x.span(0, false, 0), 1);
+        x.take(0, 0);
+        due.is("once a day", x.span(0, false, 0), 1);
         x.base(5);
         due.is("what is held keeps its span", x.span(0, false, 0), 1);
         x.rest(0, 1);
@@ -157,6 +159,12 @@ public final class PupilsTest {
         due.is("abe is told: e was not taught", x.read(0, 1), 1);
         due.is("its signs were not used", x.span(0, false, 1), 3);
         due.is("e was not used", x.span(0, false, 2), 0);
+        FirstReader y = due.reader("sign a 1;sign b 2;word b 2;lesson signs 0,1;page b;", 5);
+        y.take(0, 0);
+        y.rest(0, 1);
+        due.is("read", y.read(0, 0), 0);
+        due.is("a is not in it", y.span(0, false, 0), 3);
+        due.is("b is", y.span(0, false, 1), 6);
     }
 
     private static void readGoesByWhatWasHeldAsThePageBegan() {
@@ -306,6 +314,18 @@ public final class PupilsTest {
         due.is("the third has forgotten", x.forAll(), 1);
         FirstReader y = due.reader("word a 1;lesson;", 2);
         due.is("no pages", y.forAll(), NONE);
+        StringBuilder words = new StringBuilder();
+        StringBuilder page = new StringBuilder("page");
+        for (char c = 'a'; c <= 'p'; c++) {
+            words.append("word ").append(c).append(" 1;");
+            page.append(' ').append(c);
+        }
+        FirstReader z = due.reader(words + page.toString() + ";", 17);
+        due.is("all is unknown to all", z.forAll(), 0);
+        due.is("meets(2, 0)", z.meets(2, 0), 16);
+        due.is("next(2, 15)", z.next(2, 15), NONE);
+        due.is("next(2, 16)", z.next(2, 16), 100);
+        due.is("fewest(0, 15)", z.fewest(0, 15), NONE);
     }
 
     private static void imagesKeepPupilsAndBase() {

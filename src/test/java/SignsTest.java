@@ -8,6 +8,7 @@ public final class SignsTest {
         fitsRefuses();
         waysCountsCuts();
         waysAreMany();
+        waysOfOneWordLeaveNothingForAnother();
         cutIsTheFirst();
         aloudTakesTheLongest();
         aloudEndsWhereNoneFits();
@@ -67,6 +68,18 @@ public final class SignsTest {
         due.is("ways(2, all)", x.ways(2, (1 << 20) - 1), 0);
         due.is("ways(0, one)", x.ways(0, 1 << 19), 1);
         due.is("cut(0, one)", x.cut(0, 1 << 19, 7), 19);
+    }
+
+    private static void waysOfOneWordLeaveNothingForAnother() {
+        FirstReader x = due.reader("sign a 1;sign a -;word aa 1;word ab 1;word a 1 1;word aaa 1 1;word aaaa 1;", 7);
+        int[] want = {2, 0, 0, 3, 4};
+        for (int first = 0; first < 5; first++) {
+            for (int second = 0; second < 5; second++) {
+                due.is("ways(" + first + ")", x.ways(first, 3), want[first]);
+                due.is("ways(" + second + ") behind it", x.ways(second, 3), want[second]);
+                due.is("ways(" + second + ") without silence", x.ways(second, 1), 0);
+            }
+        }
     }
 
     private static void cutIsTheFirst() {

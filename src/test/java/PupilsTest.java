@@ -283,6 +283,11 @@ public final class PupilsTest {
         due.row("all is known", 0, u -> x.next(0, u), 0, 0, 0);
         x.take(0, 0);
         due.row("all is done", 0, u -> x.next(0, u), NONE, NONE, NONE);
+        FirstReader y = due.reader("word a 1;word b 2;" + "page a;".repeat(7) + "page a b;", 10);
+        due.row("eight pages", 0, u -> y.next(0, u), NONE, 100, 107);
+        y.read(0, 7);
+        due.row("all is known", 0, u -> y.next(0, u), NONE, NONE, NONE);
+        due.is("forAll() of eight", y.forAll(), 0);
     }
 
     private static void nextIsALessonThatMayBe() {

@@ -67,6 +67,8 @@ public final class SignsTest {
         due.is("ways(1, all)", x.ways(1, (1 << 20) - 1), 20);
         due.is("ways(2, all)", x.ways(2, (1 << 20) - 1), 0);
         due.is("ways(0, one)", x.ways(0, 1 << 19), 1);
+        due.row("all kinds of right, with eight letters and eight sounds", 0, what -> x.right(0, 1 << 19, what), 1, 1, 1);
+        due.is("the eighth sound", x.aloud(0, 1, 7), 1);
         due.is("cut(0, one)", x.cut(0, 1 << 19, 7), 19);
     }
 

@@ -32,7 +32,8 @@ public final class ModelTest {
     private void run() {
         while (calls < CALLS) {
             if (calls == 0 || lot.nextInt(60) == 0) {
-                String text = lot.nextInt(8) == 0 ? crowdedText() : ordinaryText();
+                int kind = lot.nextInt(8);
+                String text = kind == 0 ? crowdedText() : kind == 1 ? sightText() : ordinaryText();
                 feed(lot.nextInt(3) == 0 ? spoil(text) : text);
                 same("primer()", x.primer(), m.primer());
                 same("fault()", x.fault(), m.fault());
@@ -153,6 +154,28 @@ public final class ModelTest {
         }
         text.append("word ").append("abcdefghij", 0, 7 + lot.nextInt(3)).append(" 7".repeat(7 + lot.nextInt(3))).append(';');
         return cutToSize(text.toString());
+    }
+
+    /** Words by sight alone, on pages that lead to one another: long courses. */
+    private String sightText() {
+        StringBuilder text = new StringBuilder();
+        int wordCount = 4 + lot.nextInt(8);
+        for (int i = 0; i < wordCount; i++) {
+            text.append("word ").append((char) ('a' + i)).append("1;");
+        }
+        int lessonMost = lot.nextInt(6);
+        for (int l = 0; l < lessonMost; l++) {
+            text.append("lesson").append(l > 0 && lot.nextInt(3) == 0 ? " after " + lot.nextInt(l) : "")
+                .append(" sight ").append(lot.nextInt(wordCount)).append(';');
+        }
+        for (int p = 2 + lot.nextInt(5); p > 0; p--) {
+            text.append("page");
+            for (int i = 1 + lot.nextInt(5); i > 0; i--) {
+                text.append(' ').append((char) ('a' + lot.nextInt(wordCount)));
+            }
+            text.append(';');
+        }
+        return text.toString();
     }
 
     private static String cutToSize(String text) {

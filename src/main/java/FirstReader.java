@@ -966,6 +966,7 @@ public final class FirstReader {
             }
         }
 
+        /** One less than a single bit has just the bits below it: as many as the bit's number. */
         private static int stepOf(int single) {
             int number = Integer.bitCount(single - 1);
             return number < MOST_LESSONS ? number : FIRST_PAGE_STEP + number - MOST_LESSONS;

@@ -1,18 +1,30 @@
 /** What the tests share: a check with the answer that is due, a way to feed a text, and the end of a test. */
 final class Due {
     private final String test;
+    private String sentence = "";
     private int calls;
+    private int callsAtBegin;
     private int wrong;
 
     Due(String test) {
         this.test = test;
     }
 
+    /** What comes from here on is about one sentence of the document. */
+    void begin(String words) {
+        sentence = words + ": ";
+        callsAtBegin = calls;
+    }
+
+    boolean hasCompared() {
+        return calls > callsAtBegin;
+    }
+
     void is(String call, long got, long want) {
         calls++;
         if (got != want) {
             wrong++;
-            System.out.println(test + ": " + call + " answered " + got + ", due is " + want);
+            System.out.println(test + ": " + sentence + call + " answered " + got + ", due is " + want);
         }
     }
 
@@ -27,6 +39,17 @@ final class Due {
         is("primer() of " + text, x.primer(), clauses);
         is("fault() of " + text, x.fault(), FirstReader.NONE);
         return x;
+    }
+
+    /** A text that must become the primer, with a ';' for each clause. */
+    FirstReader reader(String text) {
+        return reader(text, (int) text.chars().filter(c -> c == ';').count());
+    }
+
+    /** A text with a fault, whose byte stands behind a mark '^' that is not fed. */
+    void fault(String marked, int kind) {
+        int at = marked.indexOf('^');
+        fault(marked.substring(0, at) + marked.substring(at + 1), kind, at);
     }
 
     /** A text with a fault. */

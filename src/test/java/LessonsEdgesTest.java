@@ -9,17 +9,6 @@ public final class LessonsEdgesTest {
         Edges.run(LessonsEdgesTest.class);
     }
 
-    /** Sixteen words a .. p, and a page of all of them. */
-    private static String sixteen() {
-        StringBuilder words = new StringBuilder();
-        StringBuilder page = new StringBuilder("page");
-        for (char c = 'a'; c <= 'p'; c++) {
-            words.append("word ").append(c).append(" 1;");
-            page.append(' ').append(c);
-        }
-        return words.append(page).append(';').toString();
-    }
-
     // ---- section 2: lesson sets
 
     @Says(promise = 0, words = "A LESSON SET holds all 'after' of each in it (CLOSED), else NOT.")
@@ -100,7 +89,7 @@ public final class LessonsEdgesTest {
 
     @Says(promise = 0, words = "UNKNOWN on a PAGE: how many unlike WORDS of it are not READ.")
     static void sixteenUnknownAndNone(Due due) {
-        FirstReader x = due.reader(sixteen() + "lesson sight 0,1,2,3,4,5,6,7,8,9,10,11,12,13,14,15;");
+        FirstReader x = due.reader(Texts.pageOfSixteen() + "lesson sight 0,1,2,3,4,5,6,7,8,9,10,11,12,13,14,15;");
         due.is("all", x.unknown(0, 0), 16);
         due.is("none", x.unknown(0, 1), 0);
     }
@@ -257,11 +246,8 @@ public final class LessonsEdgesTest {
 
     @Says(promise = 17, words = "WORDS that are READ by a SET of LESSONS: the SET.")
     static void allOf24WordsAreRead(Due due) {
-        StringBuilder text = new StringBuilder("sign a 1;");
-        for (char c = 'a'; c <= 'x'; c++) {
-            text.append("word ").append(c).append(" 1;");
-        }
-        FirstReader x = due.reader(text + "lesson signs 0 sight 1,2,3,4,5,6,7,8,9,10,11,12,13,14,15,16,17,18,19,20,21,22,23;");
+        FirstReader x = due.reader("sign a 1;" + Texts.words(24)
+            + "lesson signs 0 sight 1,2,3,4,5,6,7,8,9,10,11,12,13,14,15,16,17,18,19,20,21,22,23;");
         due.is("reads(1)", x.reads(1), (1 << 24) - 1);
     }
 
@@ -394,7 +380,7 @@ public final class LessonsEdgesTest {
 
     @Says(promise = 20, words = "OUTSIDE (u 0 .. 16).")
     static void fewestWithUOutside(Due due) {
-        FirstReader x = due.reader(sixteen());
+        FirstReader x = due.reader(Texts.pageOfSixteen());
         due.is("fewest(0, -1)", x.fewest(0, -1), OUTSIDE);
         due.is("fewest(0, 0)", x.fewest(0, 0), NONE);
         due.is("fewest(0, 15)", x.fewest(0, 15), NONE);
@@ -415,6 +401,13 @@ public final class LessonsEdgesTest {
         FirstReader x = due.reader("word a 1;word b 1;word c 1;word d 1;word e 1;word f 1;word g 1;word h 1;word y 1;word z 1;"
             + "lesson;lesson after 0;lesson after 1;lesson after 2;lesson after 3;lesson after 4;lesson after 5 sight 0,8;"
             + "page a b c d e f g h y z;page y a b;page y b c;page y c d;page y d e;page y e f;page y f g;page y g h;");
+        due.row("course", NONE, j -> x.course(0, 1, j), 15, 0, 1, 2, 3, 4, 5, 6, 101, 102, 103, 104, 105, 106, 107, 100, NONE);
+    }
+
+    @Says(promise = 21, words = "THE SHORTEST COURSE: j = NONE how many STEPS")
+    static void allLessonsAndAllPagesInAnyOrder(Due due) {
+        FirstReader x = due.reader(Texts.words(15) + "page a b c d e f g h i j k l m n o;page h;page i;page j;page k;page l;page m;page n;"
+            + "lesson sight 0;lesson sight 1;lesson sight 2;lesson sight 3;lesson sight 4;lesson sight 5;lesson sight 6;");
         due.row("course", NONE, j -> x.course(0, 1, j), 15, 0, 1, 2, 3, 4, 5, 6, 101, 102, 103, 104, 105, 106, 107, 100, NONE);
     }
 
@@ -462,7 +455,7 @@ public final class LessonsEdgesTest {
 
     @Says(promise = 21, words = "OUTSIDE.")
     static void courseWithUOutside(Due due) {
-        FirstReader x = due.reader(sixteen());
+        FirstReader x = due.reader(Texts.pageOfSixteen());
         due.is("course(0, -1, NONE)", x.course(0, -1, NONE), OUTSIDE);
         due.is("course(0, 15, NONE)", x.course(0, 15, NONE), NONE);
         due.is("course(0, 16, NONE)", x.course(0, 16, NONE), 1);

@@ -261,12 +261,7 @@ public final class PrimerEdgesTest {
 
     @Says(promise = 3, words = ": how many clauses;")
     static void asManyClausesAsThereMayBe(Due due) {
-        StringBuilder text = new StringBuilder();
-        for (char c = 'a'; c <= 'x'; c++) {
-            text.append("word ").append(c).append("1;");
-        }
-        text.append("sign a1;".repeat(20)).append("lesson;".repeat(7)).append("page a;".repeat(8));
-        due.is("primer()", primerOf(new FirstReader(), text.toString()), 24 + 20 + 7 + 8);
+        due.is("primer()", primerOf(new FirstReader(), Texts.full()), 24 + 20 + 7 + 8);
     }
 
     @Says(promise = 3, words = "-10 less the number of its FAULT")
@@ -517,11 +512,7 @@ public final class PrimerEdgesTest {
 
     @Says(promise = 9, words = "How many: 0 SIGNS, 1 WORDS, 2 LESSONS, 3 PAGES, 4 bytes of THE TEXT, 5 BASE.")
     static void howManyOfEachAtMost(Due due) {
-        StringBuilder text = new StringBuilder("lesson;".repeat(7) + "sign a1;".repeat(20));
-        for (char c = 'a'; c <= 'x'; c++) {
-            text.append("word ").append(c).append("1;");
-        }
-        FirstReader x = due.reader(text + "page a;".repeat(8));
+        FirstReader x = due.reader(Texts.full());
         Due.feed(x, " ".repeat(600));
         x.base(30);
         due.row("count", 0, x::count, 20, 24, 7, 8, 600, 30);

@@ -16,17 +16,6 @@ public final class PupilsEdgesTest {
         }
     }
 
-    /** Sixteen words a .. p, and a page of all of them. */
-    private static String sixteen() {
-        StringBuilder words = new StringBuilder();
-        StringBuilder page = new StringBuilder("page");
-        for (char c = 'a'; c <= 'p'; c++) {
-            words.append("word ").append(c).append(" 1;");
-            page.append(' ').append(c);
-        }
-        return words.append(page).append(';').toString();
-    }
-
     // ---- section 4: what pupils have
 
     @Says(promise = 0, words = "PUPILS (3)")
@@ -384,9 +373,11 @@ public final class PupilsEdgesTest {
     @Says(promise = 0, words = "a LESSON taken of which some SIGN or 'sight' WORD is not HELD (the least);")
     static void aLessonNotTakenIsNotAheadOfAPage(Due due) {
         FirstReader x = due.reader("sign a 1;word b 1;page b;lesson signs 0;lesson sight 0;");
-        due.is("next(0, 1)", x.next(0, 1), 100);
+        due.is("none is taken", x.next(0, 1), 100);
         x.take(0, 0);
-        due.is("next(0, 1)", x.next(0, 1), 100);
+        due.is("0 is held", x.next(0, 1), 100);
+        x.rest(0, 4);
+        due.is("0 is forgotten, 1 was never taken", x.next(0, 1), 0);
     }
 
     @Says(promise = 0, words = "a PAGE with u UNKNOWN at most and one at least by what is HELD (the most UNKNOWN, of like ones the least);")
@@ -521,12 +512,7 @@ public final class PupilsEdgesTest {
 
     @Says(promise = 24, words = "A PUPIL takes a LESSON: how many SIGNS and WORDS of it were not HELD.")
     static void asManyAsThereMayBe(Due due) {
-        StringBuilder text = new StringBuilder("sign a 1;".repeat(20));
-        for (char c = 'a'; c <= 'x'; c++) {
-            text.append("word ").append(c).append(" 1;");
-        }
-        FirstReader x = due.reader(text + "lesson signs 0,1,2,3,4,5,6,7,8,9,10,11,12,13,14,15,16,17,18,19"
-            + " sight 0,1,2,3,4,5,6,7,8,9,10,11,12,13,14,15,16,17,18,19,20,21,22,23;");
+        FirstReader x = due.reader(Texts.lessonOfAll());
         due.is("take(0, 0)", x.take(0, 0), 44);
         due.is("about(0, 2)", x.about(0, 2), (1 << 20) - 1);
         due.is("about(0, 3)", x.about(0, 3), (1 << 24) - 1);
@@ -574,7 +560,7 @@ public final class PupilsEdgesTest {
 
     @Says(promise = 25, words = "A PUPIL READS a PAGE: how many were UNKNOWN.")
     static void sixteenWereUnknown(Due due) {
-        FirstReader x = due.reader(sixteen());
+        FirstReader x = due.reader(Texts.pageOfSixteen());
         due.is("read(0, 0)", x.read(0, 0), 16);
         due.is("about(0, 3)", x.about(0, 3), (1 << 16) - 1);
     }
@@ -671,11 +657,7 @@ public final class PupilsEdgesTest {
 
     @Says(promise = 28, words = "SPAN of a SIGN (ofWord = false), of a WORD;")
     static void spanOfTheLastSignAndTheLastWord(Due due) {
-        StringBuilder text = new StringBuilder("sign a 1;".repeat(20));
-        for (char c = 'a'; c <= 'x'; c++) {
-            text.append("word ").append(c).append(" 1;");
-        }
-        FirstReader x = due.reader(text + "lesson signs 19 sight 23;");
+        FirstReader x = due.reader("sign a 1;".repeat(20) + Texts.words(24) + "lesson signs 19 sight 23;");
         x.take(0, 0);
         due.row("signs", 18, k -> x.span(0, false, k), 0, 3, UNKNOWN);
         due.row("words", 22, w -> x.span(0, true, w), 0, 3, UNKNOWN);
@@ -733,7 +715,7 @@ public final class PupilsEdgesTest {
 
     @Says(promise = 29, words = "UNKNOWN on a PAGE by what a PUPIL HOLDS.")
     static void sixteenUnknown(Due due) {
-        FirstReader x = due.reader(sixteen());
+        FirstReader x = due.reader(Texts.pageOfSixteen());
         due.is("all", x.meets(0, 0), 16);
         x.read(0, 0);
         due.is("none", x.meets(0, 0), 0);
@@ -776,7 +758,7 @@ public final class PupilsEdgesTest {
 
     @Says(promise = 30, words = "OUTSIDE (u).")
     static void nextWithUOutside(Due due) {
-        FirstReader x = due.reader(sixteen() + "lesson;");
+        FirstReader x = due.reader(Texts.pageOfSixteen() + "lesson;");
         due.is("next(0, -1)", x.next(0, -1), OUTSIDE);
         due.is("next(0, 0)", x.next(0, 0), 0);
         due.is("next(0, 15)", x.next(0, 15), 0);
@@ -788,7 +770,7 @@ public final class PupilsEdgesTest {
 
     @Says(promise = 31, words = "FOR ALL;")
     static void forAllOfOnePageAndOfEight(Due due) {
-        FirstReader x = due.reader(sixteen());
+        FirstReader x = due.reader(Texts.pageOfSixteen());
         due.is("one page, 48 in all", x.forAll(), 0);
         FirstReader y = due.reader("word a 1;word b 1;word c 1;" + "page a b;".repeat(7) + "page c;");
         due.is("the last of eight", y.forAll(), 7);

@@ -106,11 +106,7 @@ public final class TermsEdgesTest {
 
     @Says(promise = 0, words = "A SET is a whole number, bit k for k.")
     static void theLastWordIsBit23(Due due) {
-        StringBuilder text = new StringBuilder();
-        for (char c = 'a'; c <= 'x'; c++) {
-            text.append("word ").append(c).append(" 1;");
-        }
-        FirstReader x = due.reader(text + "lesson sight 23,0;page x a;");
+        FirstReader x = due.reader(Texts.words(24) + "lesson sight 23,0;page x a;");
         due.is("lesson(0, 2)", x.lesson(0, 2), 1 << 23 | 1);
         due.is("reads(1)", x.reads(1), 1 << 23 | 1);
         due.is("page(0, NONE)", x.page(0, NONE), 1 << 23 | 1);

@@ -6,15 +6,6 @@ public final class TextEdgesTest {
         Edges.run(TextEdgesTest.class);
     }
 
-    /** Words a, b, c .. with one sound each. */
-    private static String words(int count) {
-        StringBuilder text = new StringBuilder();
-        for (char c = 'a'; c < 'a' + count; c++) {
-            text.append("word ").append(c).append(" 1;");
-        }
-        return text.toString();
-    }
-
     // ---- the text and its clauses
 
     @Says(promise = 0, words = "THE PRIMER is told in a text (600 bytes at most)")
@@ -145,8 +136,8 @@ public final class TextEdgesTest {
 
     @Says(promise = 0, words = "WORDS (24 at most;")
     static void twentyFourWordsAndOneMore(Due due) {
-        due.reader(words(24));
-        due.fault(words(24) + "^word y 1;", 3);
+        due.reader(Texts.words(24));
+        due.fault(Texts.words(24) + "^word y 1;", 3);
     }
 
     @Says(promise = 0, words = "letters all unlike)")
@@ -195,9 +186,7 @@ public final class TextEdgesTest {
 
     @Says(promise = 0, words = "teach SIGNS and WORDS by 'sight'.")
     static void aLessonMayTeachAllThereIs(Due due) {
-        FirstReader x = due.reader("sign a 1;".repeat(20) + words(24)
-            + "lesson signs 0,1,2,3,4,5,6,7,8,9,10,11,12,13,14,15,16,17,18,19"
-            + " sight 0,1,2,3,4,5,6,7,8,9,10,11,12,13,14,15,16,17,18,19,20,21,22,23;");
+        FirstReader x = due.reader(Texts.lessonOfAll());
         due.is("lesson(0, 1)", x.lesson(0, 1), (1 << 20) - 1);
         due.is("lesson(0, 2)", x.lesson(0, 2), (1 << 24) - 1);
     }
@@ -411,14 +400,14 @@ public final class TextEdgesTest {
     @Says(promise = 0, words = "3 a SIGN, WORD, LESSON, PAGE too many (at the clause's first letter).")
     static void aClauseTooMany(Due due) {
         due.fault("sign a 1;".repeat(20) + "lesson; ^sign b 2;", 3);
-        due.fault(words(24) + "lesson; ^word a 1;", 3);
+        due.fault(Texts.words(24) + "lesson; ^word a 1;", 3);
         due.fault("lesson;".repeat(7) + "sign a 1; ^lesson after 9;", 3);
         due.fault("word a 1;" + "page a;".repeat(8) + "lesson; ^page;", 3);
     }
 
     @Says(promise = 0, words = "3 a SIGN, WORD, LESSON, PAGE too many (at the clause's first letter).")
     static void manyOfOneKindLeaveRoomForTheOthers(Due due) {
-        FirstReader x = due.reader("sign a1;".repeat(20) + words(24) + "lesson;".repeat(7) + "page a;".repeat(8));
+        FirstReader x = due.reader(Texts.full());
         due.row("count", 0, x::count, 20, 24, 7, 8);
     }
 
@@ -438,7 +427,7 @@ public final class TextEdgesTest {
 
     @Says(promise = 0, words = "a 17th WORD of a PAGE (at its first).")
     static void aSeventeenthWordOfAPage(Due due) {
-        due.fault(words(17) + "page a b c d e f g h i j k l m n o p ^q;", 4);
+        due.fault(Texts.words(17) + "page a b c d e f g h i j k l m n o p ^q;", 4);
         due.fault("word ab 1;page" + " ab".repeat(16) + "  ^ab ab", 4);
     }
 
